@@ -305,7 +305,7 @@ public final class ClauseWatch {
     }
 
     public int ifTold(int sign) {
-        if (sign < 1 || sign > TOLD_ZERO + MOST_THINGS || isNoThing(thingOf(sign))) {
+        if (isNoThing(thingOf(sign))) {
             return BAD_VALUE;
         }
         if (now.told >= MOST_TOLD) {
@@ -642,7 +642,7 @@ public final class ClauseWatch {
             }
             int telling = firstUntrue(1);
             if (telling >= 0) {
-                give(Integer.numberOfTrailingZeros(openSigns(clauseAt(telling))), presentLevel(), telling);
+                give(signInOrder(openSigns(clauseAt(telling)), 1), presentLevel(), telling);
                 return;
             }
             int thing = lowestOpenThing();

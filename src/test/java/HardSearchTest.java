@@ -16,6 +16,11 @@ public final class HardSearchTest {
             + ";2,3,4,-7,8;4,6,7;1,5,6,-7,8;-4,6,7,-8;1,-5,-7,-8;-5,-7,-8;1,2,4,-6,7;-2,3,6,7,9;1,6,7,8,9;2,3,-6,7"
             + ";-6,7,-8;6,8,9";
 
+    /** Would end earlier if the reason of the trail's first value, once the earliest learned, was forgotten. */
+    private static final String KEEPS_A_REASON = "2,6,-7,8;1,-2,6,-8,9;-3,5,7,-9;1,-3,4,-5,-6,7,8;1,4,-5,-6,-7,8,-9"
+            + ";1,2,-5,6,7,-8,9;-4,7,8,9;3,6,7,-9;-1,2,3,-5,7,8,-9;7,-9;-1,-2,3,4,5,6,-7,8,-9;1,2,4,-5,6,-8,9;-6,-8"
+            + ";6,-8,9;5,8;-7,8,9;4,7,8,9;-5,-7,-9;5,6,-8,-9;-1,-4,5,6,-7,8";
+
     private HardSearchTest() {
     }
 
@@ -24,7 +29,9 @@ public final class HardSearchTest {
         endsAt2001();
         learnsSixty();
         everyStep("ends at 2001", ENDS_AT_2001, 1, 700);
-        everyStep("learns sixty", LEARNS_SIXTY, 10, 340);
+        Due.due("keeps a reason: searched(0, 0)", loaded(KEEPS_A_REASON, 14).searched(0, 0), 270);
+        everyStep("keeps a reason", KEEPS_A_REASON, 14, 270);
+        everyStep("learns sixty", LEARNS_SIXTY, 10, 337);
         everyStep("learns sixty", LEARNS_SIXTY, 1, 500);
         Due.end("HardSearchTest");
     }

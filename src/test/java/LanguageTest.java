@@ -122,7 +122,7 @@ public final class LanguageTest {
         holds("no lambda and no method reference", !code.contains("->") && !code.contains("::"));
         holds("no static initialiser", !Pattern.compile("\\bstatic\\s*\\{").matcher(code).find());
         Matcher library = Pattern.compile("\\b(System|Integer|Math|Arrays|Long)\\.(\\w+)").matcher(code);
-        Set<String> allowed = Set.of("System.arraycopy", "Integer.bitCount", "Integer.numberOfTrailingZeros", "Math.max");
+        Set<String> allowed = Set.of("System.arraycopy", "Integer.bitCount", "Math.max");
         while (library.find()) {
             holds("no " + library.group(), allowed.contains(library.group()));
         }

@@ -3,19 +3,60 @@ import java.util.List;
 
 /** Counts the answers that are not as due, prints them, and ends the test. */
 final class Due {
+    /** Far above what the longest test takes: a call that does not end is a fault, too. */
+    private static final long MOST_SECONDS = 900;
+
     private static int right = 0;
     private static int wrong = 0;
+    private static String about = "";
+
+    static {
+        Thread guard = new Thread(Due::endIfItLasts);
+        guard.setDaemon(true);
+        guard.start();
+    }
 
     private Due() {
+    }
+
+    private static void endIfItLasts() {
+        try {
+            Thread.sleep(MOST_SECONDS * 1000);
+        } catch (InterruptedException e) {
+            return;
+        }
+        System.out.println(about + "does not end");
+        Runtime.getRuntime().halt(1);
+    }
+
+    /** What the answers that come now are about; it stands ahead of every one that is not as due. */
+    static void about(String what) {
+        about = what;
     }
 
     static void due(String call, long got, long want) {
         if (got == want) {
             right++;
         } else {
-            wrong++;
-            System.out.println(call + " answered " + got + ", due is " + want);
+            wrong(call + " answered " + got + ", due is " + want);
         }
+    }
+
+    static void due(String what, String got, String want) {
+        if (got.equals(want)) {
+            right++;
+        } else {
+            wrong(what + ": \"" + got + "\", due is \"" + want + "\"");
+        }
+    }
+
+    static void holds(String what, boolean holds) {
+        due(what + ", which is so if 1, and", holds ? 1 : 0, 1);
+    }
+
+    static void wrong(String what) {
+        wrong++;
+        System.out.println(about + what);
     }
 
     static int wrong() {
@@ -24,7 +65,7 @@ final class Due {
 
     static void end(String test) {
         System.out.println(test + ": " + right + " answers as due, " + wrong + " not");
-        if (wrong != 0) {
+        if (wrong != 0 || right == 0) {
             System.exit(1);
         }
     }

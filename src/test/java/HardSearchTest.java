@@ -3,21 +3,16 @@ public final class HardSearchTest {
     private static final int NONE = -6;
 
     /** Each of 20 clauses; with RESTART 1 and FIRST 0, the search ends with the step that the name tells. */
-    private static final String ENDS_AT_2000 = "-1,-3,4,6,-7,8,9;1,2,-3,-4,6,-7,8,-9;4,5,7,8,9;-2,4,7,8,9;3,6,8,-9"
+    static final String ENDS_AT_2000 = "-1,-3,4,6,-7,8,9;1,2,-3,-4,6,-7,8,-9;4,5,7,8,9;-2,4,7,8,9;3,6,8,-9"
             + ";4,-5,-7,8,9;1,3,-5,-6,7,-8,9;-4,5,7,8,9;5,-7,8,9;-4,-8,-9;2,4,-6,-7,-8;-3,6,8,-9;7,-8,9;-5,7,8,9"
             + ";3,8,-9;-3,-6,8,-9;-7,-8,9;-5,-7,8,9;4,-8,-9;1,2,-3,-6,-7,-8,-9";
-    private static final String ENDS_AT_2001 = "-3,6,8,-9;1,-4,7,-8,-9;2,4,-5,-6,-7,9;7,-8,9;2,4,-6,-7,-8;-4,5,7,8,9"
+    static final String ENDS_AT_2001 = "-3,6,8,-9;1,-4,7,-8,-9;2,4,-5,-6,-7,9;7,-8,9;2,4,-6,-7,-8;-4,5,7,8,9"
             + ";5,-7,8,9;4,-7,8,9;4,5,7,8,9;4,-8,-9;-7,-8,9;-3,-6,8,-9;1,-2,-4,-5,-8,-9;-2,4,-5,7,8,9;-5,-7,8,9"
             + ";-5,7,8,9;-4,-8,-9;3,6,8,-9;-3,4,-5,6,8,-9;3,8,-9";
     private static final int MOST_OF_A_CALL = 500;
 
-    /** Learns from 60 conflicts, and ends with NEVER: 20 clauses, to be searched with RESTART 10. */
-    private static final String LEARNS_SIXTY = "-2,-4,5,7,-9;-6,8;3,5,6,-8,9;3,4,-7,-9;2,6,8;5,-7,-8;8,-9;2,3,4,6,7"
-            + ";2,3,4,-7,8;4,6,7;1,5,6,-7,8;-4,6,7,-8;1,-5,-7,-8;-5,-7,-8;1,2,4,-6,7;-2,3,6,7,9;1,6,7,8,9;2,3,-6,7"
-            + ";-6,7,-8;6,8,9";
-
     /** Would end earlier if the reason of the trail's first value, once the earliest learned, was forgotten. */
-    private static final String KEEPS_A_REASON = "2,6,-7,8;1,-2,6,-8,9;-3,5,7,-9;1,-3,4,-5,-6,7,8;1,4,-5,-6,-7,8,-9"
+    static final String KEEPS_A_REASON = "2,6,-7,8;1,-2,6,-8,9;-3,5,7,-9;1,-3,4,-5,-6,7,8;1,4,-5,-6,-7,8,-9"
             + ";1,2,-5,6,7,-8,9;-4,7,8,9;3,6,7,-9;-1,2,3,-5,7,8,-9;7,-9;-1,-2,3,4,5,6,-7,8,-9;1,2,4,-5,6,-8,9;-6,-8"
             + ";6,-8,9;5,8;-7,8,9;4,7,8,9;-5,-7,-9;5,6,-8,-9;-1,-4,5,6,-7,8";
 
@@ -31,8 +26,8 @@ public final class HardSearchTest {
         everyStep("ends at 2001", ENDS_AT_2001, 1, 700);
         Due.due("keeps a reason: searched(0, 0)", loaded(KEEPS_A_REASON, 14).searched(0, 0), 270);
         everyStep("keeps a reason", KEEPS_A_REASON, 14, 270);
-        everyStep("learns sixty", LEARNS_SIXTY, 10, 337);
-        everyStep("learns sixty", LEARNS_SIXTY, 1, 500);
+        everyStep("learns sixty", Scene.LEARNS_SIXTY, 10, 337);
+        everyStep("learns sixty", Scene.LEARNS_SIXTY, 1, 500);
         Due.end("HardSearchTest");
     }
 
@@ -87,7 +82,7 @@ public final class HardSearchTest {
     }
 
     private static void learnsSixty() {
-        ClauseWatch x = loaded(LEARNS_SIXTY, 10);
+        ClauseWatch x = loaded(Scene.LEARNS_SIXTY, 10);
         Due.due("searched(0, 0)", x.searched(0, 0), 337);
         Due.due("searched(0, 1)", x.searched(0, 1), 60);
         Due.due("step(500)", x.step(500), 2);

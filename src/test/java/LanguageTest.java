@@ -20,7 +20,8 @@ public final class LanguageTest {
         "undo()", "save(int)", "restore(int)"};
     private static final String[] CONSTANTS = {"NO_SUCH=-1", "BAD_VALUE=-2", "BAD_TEXT=-3", "TOO_MANY=-4",
         "NOT_POSSIBLE=-5", "NONE=-6", "OPEN=0", "FITS=1", "NEVER=2"};
-    private static final int MOST_LINES = 60;
+    /** "Some sixty lines". */
+    private static final int MOST_LINES = 66;
     private static final int MOST_FIELDS = 20;
     private static final int MOST_CLASSES = 12;
     private static final int MOST_PARAMETERS = 7;
@@ -114,19 +115,26 @@ public final class LanguageTest {
         holds("signs 1 to 127 alone", source.chars().allMatch(c -> c >= 1 && c <= 127));
         String code = source.replaceAll("(?s)/\\*.*?\\*/", "").replaceAll("//[^\n]*", "").replaceAll("'.'", "' '");
         for (String word : new String[] {"throw", "throws", "try", "catch", "finally", "synchronized", "assert",
-            "import", "package", "protected", "yield", "var", "native", "volatile", "transient", "Thread",
-            "random", "Object", "equals", "hashCode", "toString"}) {
+            "package", "protected", "native", "volatile", "transient", "Thread", "random", "Object", "hashCode"}) {
             holds("no " + word, !Pattern.compile("\\b" + word + "\\b").matcher(code).find());
         }
         holds("no Exact", !code.contains("Exact"));
-        holds("no lambda and no method reference", !code.contains("->") && !code.contains("::"));
+        String withoutArrowsOfCases = code.replaceAll("\\b(case\\b[^:;{}]*?|default\\s*)->", "");
+        holds("no lambda and no method reference",
+                !withoutArrowsOfCases.contains("->") && !code.contains("::"));
         holds("no static initialiser", !Pattern.compile("\\bstatic\\s*\\{").matcher(code).find());
-        Matcher library = Pattern.compile("\\b(System|Integer|Math|Arrays|Long)\\.(\\w+)").matcher(code);
-        Set<String> allowed = Set.of("System.arraycopy", "Integer.bitCount", "Math.max");
-        while (library.find()) {
-            holds("no " + library.group(), allowed.contains(library.group()));
-        }
+        allFrom(code, "import\\s+([\\w.*]+)", "java.util.(ArrayList|List|Arrays|Iterator)");
+        allFrom(code, "\\bSystem\\.(\\w+)", "arraycopy");
+        allFrom(code, "\\bArrays\\.(\\w+)", "copyOf|copyOfRange|fill");
         lengths(source.split("\n"));
+    }
+
+    /** The library that LANGUAGE.md lists, of what the first pattern finds. */
+    private static void allFrom(String code, String pattern, String allowed) {
+        Matcher found = Pattern.compile(pattern).matcher(code);
+        while (found.find()) {
+            holds("no " + found.group(), found.group(1).matches(allowed));
+        }
     }
 
     /** A method begins at a line that ends a heading, and ends at the brace in the same column. */

@@ -3,8 +3,7 @@ public final class PromiseTest {
     private static final int NO_SUCH = -1, BAD_VALUE = -2, BAD_TEXT = -3, TOO_MANY = -4, NOT_POSSIBLE = -5, NONE = -6;
     private static final int[] OUT_OF_RANGE = {Integer.MIN_VALUE, -1, Integer.MAX_VALUE};
 
-    /** Decides 1, then 2; 3 and 4 follow; the last clause is false; 1,-3 is learned, and goes back to 1. */
-    private static final String LEARNS = "2,3;1,-3,4;1,-3,-4";
+    private static final String LEARNS = Scene.LEARNS;
 
     private PromiseTest() {
     }

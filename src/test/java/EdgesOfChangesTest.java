@@ -216,10 +216,10 @@ public final class EdgesOfChangesTest {
 
     private static void settings() {
         ClauseWatch x = new ClauseWatch();
-        due("set(0, 9), only THINGS may be 9 of 4", x.set(0, 9), 4);
+        due("set(0, 9)", x.set(0, 9), 4);
         due("set(1, 20)", x.set(1, 20), 10);
         due("set(2, 0)", x.set(2, 0), 0);
-        due("THINGS", x.answers(), 512);
+        due("the setting 0 is how many things there are: answers()", x.answers(), 512);
     }
 
     private static void noSuchSetting() {

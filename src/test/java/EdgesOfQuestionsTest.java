@@ -513,7 +513,7 @@ public final class EdgesOfQuestionsTest {
         due("inAnswers(5, 1)", x.inAnswers(5, 1), 0);
     }
 
-    /** Of the three answers 1 is 0 in one; of the three of the other 1 is 1 in one. */
+    /** Not the same value, if only one answer differs from all others. */
     private static void inAllButOne() {
         ClauseWatch x = Scene.told(2, "1,2");
         due("inAnswers(1, 0)", x.inAnswers(1, 0), 2);
@@ -521,7 +521,7 @@ public final class EdgesOfQuestionsTest {
         x = Scene.told(2, "-1,-2");
         due("inAnswers(1, 0)", x.inAnswers(1, 0), 1);
         due("inAnswers(1, 1)", x.inAnswers(1, 1), 0);
-        // Seven of the eight things are as told, but 1 differs once.
+        // 1 is 0 in one answer alone, that in which all others are 1; then it is 1 in one alone.
         x = Scene.told(9, "1,2;1,3;1,4;1,5;1,6;1,7;1,8;1,9");
         due("answers()", x.answers(), 257);
         due("inAnswers(1, 0)", x.inAnswers(1, 0), 256);

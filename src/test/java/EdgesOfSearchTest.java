@@ -147,7 +147,8 @@ public final class EdgesOfSearchTest {
     }
 
     private static void lastReason() {
-        ClauseWatch x = Scene.told("1,2;1,3;1,4;2,3;2,4;3,4;1,2,3;1,2,4;1,3,4;2,3,4;1,2,3,4;1,2;1,3;1,4;2,3;2,4;3,4;1,2;1,3");
+        ClauseWatch x = Scene.told("1,2;1,3;1,4;2,3;2,4;3,4;1,2,3;1,2,4;1,3,4;2,3,4;1,2,3,4;1,2;1,3;1,4;2,3;2,4;3,4"
+                + ";1,2;1,3");
         Due.reads(x, "-4");
         x.step(1);
         due("of(4, 2), the last of twenty", x.of(4, 2), 19);

@@ -75,7 +75,8 @@ public final class EdgesOfTermsTest {
     /** 7 calls, 504 changes, and what comes behind them as call 512. */
     private static void call512() {
         String[] names = {"set", "read", "drop", "step", "back", "of", "trail", "clause", "count", "answers",
-            "inAnswers", "follows", "needless", "searched", "ifTold", "put", "wipe", "fault", "undo", "save", "restore"};
+            "inAnswers", "follows", "needless", "searched", "ifTold", "put", "wipe", "fault", "undo", "save",
+            "restore"};
         Scene.Call[] calls = {x -> x.set(1, 20), ClauseWatch::read, x -> x.drop(2), x -> x.step(500), x -> x.back(1),
             x -> x.of(3, 2), x -> x.trail(1), x -> x.clause(3, 2), x -> x.count(11), ClauseWatch::answers,
             x -> x.inAnswers(1, 0), x -> x.follows(3), ClauseWatch::needless, x -> x.searched(0, 0),

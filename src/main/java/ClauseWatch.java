@@ -149,11 +149,11 @@ public final class ClauseWatch {
         }
         switch (what) {
             case 0:
-                return now.signs[place] == thing ? 1 : 0;
+                return now.signAt(place) == thing ? 1 : 0;
             case 1:
-                return now.levels[place];
+                return now.levelAt(place);
             case 2:
-                return now.reasons[place];
+                return now.reasonAt(place);
             default:
                 return place;
         }
@@ -163,7 +163,7 @@ public final class ClauseWatch {
         if (place < 0 || place >= now.given) {
             return NO_SUCH;
         }
-        return thingOf(now.signs[place]);
+        return thingOf(now.signAt(place));
     }
 
     public int clause(int clause, int what) {
@@ -387,11 +387,13 @@ public final class ClauseWatch {
             moveOldestToEnd();
             undoable = MOST_UNDONE - 1;
         }
-        if (history[undoable] == null) {
-            history[undoable] = new Search();
+        if (undoable >= 0 && undoable < MOST_UNDONE) {
+            if (history[undoable] == null) {
+                history[undoable] = new Search();
+            }
+            history[undoable].copyFrom(now);
+            undoable++;
         }
-        history[undoable].copyFrom(now);
-        undoable++;
     }
 
     private void moveOldestToEnd() {
@@ -504,7 +506,7 @@ public final class ClauseWatch {
 
         /** Learned clauses would be overwritten: the search has to begin anew ahead of this. */
         private void tell(int clause) {
-            if (told < MOST_TOLD) {
+            if (told >= 0 && told < MOST_TOLD) {
                 clauses[told] = clause;
                 told++;
             }
@@ -576,14 +578,26 @@ public final class ClauseWatch {
 
         // ---- the trail
 
+        private int signAt(int place) {
+            return place >= 0 && place < MOST_THINGS ? signs[place] : 0;
+        }
+
+        private int levelAt(int place) {
+            return place >= 0 && place < MOST_THINGS ? levels[place] : 0;
+        }
+
+        private int reasonAt(int place) {
+            return place >= 0 && place < MOST_THINGS ? reasons[place] : NONE;
+        }
+
         private int presentLevel() {
             // Levels never fall along the trail, so the last value has the present one.
-            return given > 0 && given <= MOST_THINGS ? levels[given - 1] : 0;
+            return given > 0 ? levelAt(given - 1) : 0;
         }
 
         private int placeOf(int thing) {
             for (int place = 0; place < given; place++) {
-                if (thingOf(signs[place]) == thing) {
+                if (thingOf(signAt(place)) == thing) {
                     return place;
                 }
             }
@@ -591,7 +605,7 @@ public final class ClauseWatch {
         }
 
         private void give(int sign, int level, int reason) {
-            if (given < MOST_THINGS) {
+            if (given >= 0 && given < MOST_THINGS) {
                 signs[given] = sign;
                 levels[given] = level;
                 reasons[given] = reason;
@@ -601,15 +615,15 @@ public final class ClauseWatch {
         }
 
         private void goBackTo(int level) {
-            while (given > 0 && levels[given - 1] > level) {
+            while (given > 0 && levelAt(given - 1) > level) {
                 given--;
-                values &= ~setOf(signs[given]);
+                values &= ~setOf(signAt(given));
             }
         }
 
         private boolean isReason(int number) {
             for (int place = 0; place < given; place++) {
-                if (reasons[place] == number) {
+                if (reasonAt(place) == number) {
                     return true;
                 }
             }
@@ -660,6 +674,9 @@ public final class ClauseWatch {
             }
             int clause = clauseOutOf(clauseAt(conflict));
             goBackTo(levelBelowPresent(clause));
+            if (learned >= MOST_LEARNED) {
+                forgetEarliestWithoutUse();
+            }
             learn(clause);
             conflicts++;
             if (restart > 0 && conflicts % restart == 0) {
@@ -673,10 +690,10 @@ public final class ClauseWatch {
             int clause = conflict;
             // A reason's other values were given ahead of its own: one way back meets all that come.
             for (int place = given - 1; place >= 0 && Integer.bitCount(clause & ofPresentLevel) > 1; place--) {
-                int sign = signs[place];
+                int sign = signAt(place);
                 if (has(clause, opposite(sign))) {
                     clause &= ~setOf(opposite(sign));
-                    clause |= clauseAt(reasons[place]) & ~setOf(sign);
+                    clause |= clauseAt(reasonAt(place)) & ~setOf(sign);
                 }
             }
             return clause;
@@ -685,8 +702,8 @@ public final class ClauseWatch {
         private int signsOfPresentLevel() {
             int found = 0;
             for (int place = 0; place < given; place++) {
-                if (levels[place] == presentLevel()) {
-                    found |= setOf(signs[place]);
+                if (levelAt(place) == presentLevel()) {
+                    found |= setOf(signAt(place));
                 }
             }
             return found;
@@ -696,19 +713,16 @@ public final class ClauseWatch {
         private int levelBelowPresent(int clause) {
             int greatest = 0;
             for (int place = 0; place < given; place++) {
-                if (has(clause, opposite(signs[place])) && levels[place] < presentLevel()) {
-                    greatest = Math.max(greatest, levels[place]);
+                if (has(clause, opposite(signAt(place))) && levelAt(place) < presentLevel()) {
+                    greatest = Math.max(greatest, levelAt(place));
                 }
             }
             return greatest;
         }
 
         private void learn(int clause) {
-            if (learned >= MOST_LEARNED) {
-                forgetEarliestWithoutUse();
-            }
             int number = told + learned;
-            if (learned < MOST_LEARNED && number < clauses.length) {
+            if (learned < MOST_LEARNED && number >= 0 && number < clauses.length) {
                 clauses[number] = clause;
                 learned++;
             }
@@ -726,7 +740,7 @@ public final class ClauseWatch {
         }
 
         private void lowerReasonsAbove(int number) {
-            for (int place = 0; place < given; place++) {
+            for (int place = 0; place < given && place < MOST_THINGS; place++) {
                 if (reasons[place] > number) {
                     reasons[place]--;
                 }
@@ -766,10 +780,16 @@ public final class ClauseWatch {
         }
 
         private void append(long packed, int many) {
-            for (int fromLast = many - 1; fromLast >= 0 && length < MOST_CHARACTERS; fromLast--) {
-                characters[length] = (char) codeIn(packed, fromLast);
-                length++;
+            for (int fromLast = many - 1; fromLast >= 0; fromLast--) {
+                if (length >= 0 && length < MOST_CHARACTERS) {
+                    characters[length] = (char) codeIn(packed, fromLast);
+                    length++;
+                }
             }
+        }
+
+        private char characterAt(int index) {
+            return index >= 0 && index < MOST_CHARACTERS ? characters[index] : ' ';
         }
 
         private int firstFault() {
@@ -777,7 +797,7 @@ public final class ClauseWatch {
             boolean behindDigit = false;
             boolean behindMinus = false;
             for (int i = 0; i < length; i++) {
-                char c = characters[i];
+                char c = characterAt(i);
                 if (behindDigit) {
                     if (c != ';' && (c != ',' || lastDigit == MOST_THINGS)) {
                         return i;
@@ -808,8 +828,8 @@ public final class ClauseWatch {
         private int greatestThing() {
             int greatest = 0;
             for (int i = 0; i < length; i++) {
-                if (isDigit(characters[i])) {
-                    greatest = Math.max(greatest, characters[i] - '0');
+                if (isDigit(characterAt(i))) {
+                    greatest = Math.max(greatest, characterAt(i) - '0');
                 }
             }
             return greatest;
@@ -818,7 +838,7 @@ public final class ClauseWatch {
         private int howManyClauses() {
             int many = 1;
             for (int i = 0; i < length; i++) {
-                if (characters[i] == ';') {
+                if (characterAt(i) == ';') {
                     many++;
                 }
             }
@@ -829,7 +849,7 @@ public final class ClauseWatch {
             int clause = 0;
             boolean toZero = false;
             for (int i = 0; i < length; i++) {
-                char c = characters[i];
+                char c = characterAt(i);
                 if (isDigit(c)) {
                     int thing = c - '0';
                     clause |= setOf(toZero ? opposite(thing) : thing);

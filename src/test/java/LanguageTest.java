@@ -6,7 +6,9 @@ import java.lang.reflect.Modifier;
 import java.nio.file.Files;
 import java.nio.file.Path;
 import java.util.Arrays;
+import java.util.Map;
 import java.util.Set;
+import java.util.TreeMap;
 import java.util.TreeSet;
 import java.util.regex.Matcher;
 import java.util.regex.Pattern;
@@ -25,6 +27,7 @@ public final class LanguageTest {
     private static final int MOST_FIELDS = 20;
     private static final int MOST_CLASSES = 12;
     private static final int MOST_PARAMETERS = 7;
+    private static final int MOST_CALLS_DEEP = 8;
 
     private LanguageTest() {
     }
@@ -126,7 +129,7 @@ public final class LanguageTest {
         allFrom(code, "import\\s+([\\w.*]+)", "java.util.(ArrayList|List|Arrays|Iterator)");
         allFrom(code, "\\bSystem\\.(\\w+)", "arraycopy");
         allFrom(code, "\\bArrays\\.(\\w+)", "copyOf|copyOfRange|fill");
-        lengths(source.split("\n"));
+        methods(source.split("\n"));
     }
 
     /** The library that LANGUAGE.md lists, of what the first pattern finds. */
@@ -138,8 +141,9 @@ public final class LanguageTest {
     }
 
     /** A method begins at a line that ends a heading, and ends at the brace in the same column. */
-    private static void lengths(String[] lines) {
-        Pattern heading = Pattern.compile("( +)(public|private) (?!.*\\b(class|new)\\b).*\\) \\{");
+    private static void methods(String[] lines) {
+        Pattern heading = Pattern.compile("( +)(public|private) (?!.*\\b(class|new)\\b).*?(\\w+)\\(.*\\) \\{");
+        Map<String, String> bodies = new TreeMap<>();
         for (int i = 0; i < lines.length; i++) {
             Matcher matcher = heading.matcher(lines[i]);
             if (matcher.matches()) {
@@ -148,6 +152,41 @@ public final class LanguageTest {
                     end++;
                 }
                 holds("short: " + lines[i].trim(), end - i < MOST_LINES);
+                String body = String.join("\n", Arrays.asList(lines).subList(i + 1, end)).replaceAll("//[^\n]*", "");
+                indicesAreLookedAt(lines[i].trim(), lines[i] + "\n" + body);
+                bodies.merge(matcher.group(4), body, String::concat);
+            }
+        }
+        for (String name : bodies.keySet()) {
+            int deep = callsDeep(name, bodies, 0);
+            holds(name + " calls not too deep: " + deep, deep <= MOST_CALLS_DEEP);
+        }
+    }
+
+    /** How many calls stand open at most when a method was called, its own too; those of one name count as one. */
+    private static int callsDeep(String name, Map<String, String> bodies, int above) {
+        int deepest = above + 1;
+        Matcher call = Pattern.compile("(\\w+)\\(").matcher(bodies.get(name));
+        while (call.find() && deepest <= MOST_CALLS_DEEP) {
+            if (bodies.containsKey(call.group(1))) {
+                deepest = Math.max(deepest, callsDeep(call.group(1), bodies, above + 1));
+            }
+        }
+        return deepest;
+    }
+
+    /** Rule 7: a name in an index is compared, in the same method, with what lies below and above all indices. */
+    private static void indicesAreLookedAt(String heading, String method) {
+        String code = method.replaceAll("new \\w+\\[[^\\]]*\\]", "new row");
+        Matcher index = Pattern.compile("\\w\\[([^\\]]+)\\]").matcher(code);
+        while (index.find()) {
+            Matcher name = Pattern.compile("\\b[a-z]\\w*").matcher(index.group(1));
+            while (name.find()) {
+                // Where it begins, what it is compared with, or where a loop stops that counts it down.
+                String below = "\\b" + name.group() + " (=|<|<=|>=|>) [01]\\b";
+                String above = "\\b" + name.group() + "( \\+ 1)? (<|>=|>) ([A-Z]\\w*|\\w+\\.length)\\b";
+                holds("index " + index.group(1) + " is looked at in " + heading,
+                        Pattern.compile(below).matcher(code).find() && Pattern.compile(above).matcher(code).find());
             }
         }
     }

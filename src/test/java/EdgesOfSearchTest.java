@@ -34,7 +34,8 @@ public final class EdgesOfSearchTest {
                 EdgesOfSearchTest::eachThingOnce, EdgesOfSearchTest::shortestReason,
                 EdgesOfSearchTest::longestReason);
         s.test("Then the search goes back to the greatest level of the other signs' things (0, if there are none)",
-                EdgesOfSearchTest::noOthers, EdgesOfSearchTest::othersAtLevel0, EdgesOfSearchTest::othersAtTwoLevels,
+                EdgesOfSearchTest::noOthers, EdgesOfSearchTest::noOthersButOnALongerTrail,
+                EdgesOfSearchTest::othersAtLevel0, EdgesOfSearchTest::othersAtTwoLevels,
                 EdgesOfSearchTest::othersJustBelow);
         s.test("all values with a greater level go.", EdgesOfSearchTest::valuesOfThatLevelStay);
         s.test("The new clause is learned (if there are 40 learned ones, the earliest of those that are the reason "
@@ -381,6 +382,24 @@ public final class EdgesOfSearchTest {
         dueSigns(x, 2, 3);
         dueSearch(x, 2, 1, 0, 0, 0, 1, 5);
         due("trail(0)", x.trail(0), NO_SUCH);
+    }
+
+    /** 3, of which alone the second conflict's new clause is, was at the fifth place with the level 1 ahead of that. */
+    private static void noOthersButOnALongerTrail() {
+        ClauseWatch x = Scene.told(5, "2,-5;4,-5;-1,5;-1,3;-3,-5;-3,5");
+        x.set(2, 1);
+        x.step(5);
+        dueThing(x, 3, 1, 1, 3, 4);
+        x.step(1);
+        dueSigns(x, 6, 11);
+        x.step(4);
+        dueSearch(x, 6, 1, 0, 2, 4, 1, 10);
+        dueThing(x, 3, 1, 2, NONE, 2);
+        x.step(1);
+        dueSigns(x, 7, 13);
+        dueSearch(x, 6, 2, 0, 0, 1, 2, 11);
+        x.step(1);
+        dueThing(x, 3, 0, 0, 7, 1);
     }
 
     private static void othersAtLevel0() {
